@@ -1028,7 +1028,7 @@ public final class IslandCall {
                     left -= pull[o];
                 }
             }
-            return Math.max(left, 0);
+            return left > 0 ? left : 0;
         }
 
         int needBy(int p, int set) {
@@ -1037,7 +1037,7 @@ public final class IslandCall {
 
         void measureNeeds(int set) {
             for (int p = 0; p < people; p++) {
-                needs[p] = needBy(p, set);
+                needs[p] = needWith(hold[p], p, set);
             }
         }
 
@@ -1076,7 +1076,8 @@ public final class IslandCall {
         }
 
         int makeCall() {
-            int out = outOf(aboard, shown);
+            measureNeeds(shown);
+            int out = upBehind(aboard, 0, plank);
             aboard &= ~out;
             for (int p = 0; p < people; p++) {
                 if (isAboard(p)) {
@@ -1384,11 +1385,11 @@ public final class IslandCall {
                 return true;
             }
             int c = text[next];
-            if (isLetter(c)) {
+            if (c >= 'a' && c <= 'z') {
                 takeWord();
                 return true;
             }
-            if (isDigit(c)) {
+            if (c >= '0' && c <= '9') {
                 return takeNumber();
             }
             if (c == ';' || c == '<' || c == '>' || c == '=') {
@@ -1400,17 +1401,9 @@ public final class IslandCall {
             return fail(FAULT_TOKEN);
         }
 
-        private static boolean isLetter(int c) {
-            return c >= 'a' && c <= 'z';
-        }
-
-        private static boolean isDigit(int c) {
-            return c >= '0' && c <= '9';
-        }
-
         private void takeWord() {
             kind = WORD;
-            while (next < length && isLetter(text[next])) {
+            while (next < length && text[next] >= 'a' && text[next] <= 'z') {
                 code = code * 32 + (text[next] - 'a' + 1);
                 next++;
             }
@@ -1426,7 +1419,7 @@ public final class IslandCall {
 
         private boolean takeNumber() {
             kind = NUMBER;
-            while (next < length && isDigit(text[next])) {
+            while (next < length && text[next] >= '0' && text[next] <= '9') {
                 value = value * 10 + (text[next] - '0');
                 next++;
             }
@@ -1521,22 +1514,21 @@ public final class IslandCall {
             return tokens.wantNumber(least, most) && boat.setRule(what, tokens.value) && tokens.wantStop();
         }
 
-        private boolean readNewName() {
-            if (!tokens.wantName()) {
-                return false;
-            }
-            boolean taken = boat.omenNamed(tokens.code) != NONE || boat.personNamed(tokens.code) != NONE;
-            return !taken || tokens.fail(FAULT_NAME);
+        private boolean isTaken(long name) {
+            return boat.omenNamed(name) != NONE || boat.personNamed(name) != NONE;
         }
 
         private boolean readSign() {
             if (boat.omens >= MOST_OMENS) {
                 return tokens.fail(FAULT_MANY);
             }
-            if (!readNewName()) {
+            if (!tokens.wantName()) {
                 return false;
             }
             long name = tokens.code;
+            if (isTaken(name)) {
+                return tokens.fail(FAULT_NAME);
+            }
             if (!tokens.wantKeyword(WORD_PULLS) || !tokens.wantNumber(1, MOST_PULL)) {
                 return false;
             }
@@ -1555,10 +1547,13 @@ public final class IslandCall {
             if (boat.people >= MOST_PEOPLE) {
                 return tokens.fail(FAULT_MANY);
             }
-            if (!readNewName()) {
+            if (!tokens.wantName()) {
                 return false;
             }
             long name = tokens.code;
+            if (isTaken(name)) {
+                return tokens.fail(FAULT_NAME);
+            }
             if (!tokens.wantKeyword(WORD_HOLDS) || !tokens.wantNumber(0, MOST_HOLD)) {
                 return false;
             }
@@ -1706,31 +1701,33 @@ public final class IslandCall {
                 if (tokens.isEnd()) {
                     return depth == 0 || tokens.fail(FAULT_STAND);
                 }
-                boolean good = tokens.keyword == WORD_END ? readEnd() : readStep();
-                if (!good) {
+                int word = tokens.keyword;
+                int place = years.entries;
+                boolean good = word == WORD_END ? closeBlock() : addStep(word);
+                if (good) {
+                    good = word == WORD_WHEN ? readTest(place) : readDetails(word, place);
+                }
+                if (!good || !tokens.wantStop()) {
                     return false;
                 }
             }
             return false;
         }
 
-        private boolean readEnd() {
-            if (depth <= 0) {
+        private boolean closeBlock() {
+            int end = depth > 0 ? years.add(WORD_END) : NONE;
+            if (end == NONE) {
                 return tokens.fail(FAULT_STAND);
             }
             depth--;
-            int end = years.add(WORD_END);
-            if (end == NONE) {
-                return tokens.fail(FAULT_MANY);
-            }
             years.partners[end] = open[depth];
             years.partners[open[depth]] = end;
-            return tokens.wantStop();
+            return true;
         }
 
-        private boolean readStep() {
-            int word = tokens.keyword;
-            if (!isStepWord(word)) {
+        private boolean addStep(int word) {
+            boolean isStep = word >= WORD_CALL && word != WORD_SHOWS;
+            if (!isStep) {
                 return tokens.fail(FAULT_STAND);
             }
             int step = years.steps < Years.MOST_STEPS ? years.add(word) : NONE;
@@ -1745,11 +1742,7 @@ public final class IslandCall {
                 open[depth] = step;
                 depth++;
             }
-            return readDetails(word, step) && tokens.wantStop();
-        }
-
-        private static boolean isStepWord(int word) {
-            return word >= WORD_CALL && word != WORD_SHOWS && word != WORD_END;
+            return true;
         }
 
         private boolean readDetails(int word, int step) {
@@ -1758,7 +1751,6 @@ public final class IslandCall {
                 case WORD_HIDE: return readOmen(step);
                 case WORD_BOARD: return readPerson(step);
                 case WORD_SWAY: return readPerson(step) && readNumber(step, 0, MOST_HOLD);
-                case WORD_WHEN: return readTest(step);
                 case WORD_LOOP: return readNumber(step, 1, MOST_TIMES);
                 default: return true;
             }
@@ -1869,10 +1861,10 @@ public final class IslandCall {
             int number = years.numbers[at];
             switch (years.words[at]) {
                 case WORD_CALL:
-                    tryCall(boat);
+                    tryCall(boat, true);
                     break;
                 case WORD_ANY:
-                    tryAny(boat);
+                    tryCall(boat, drawBelow(boat.odds));
                     break;
                 case WORD_SHOW:
                     count(boat.turnOmen(thing, true));
@@ -1904,8 +1896,8 @@ public final class IslandCall {
             }
         }
 
-        private void tryCall(Boat boat) {
-            if (!boat.mayCall()) {
+        private void tryCall(Boat boat, boolean tide) {
+            if (!tide || !boat.mayCall()) {
                 missed++;
                 return;
             }
@@ -1914,14 +1906,9 @@ public final class IslandCall {
             callsMade++;
         }
 
-        private void tryAny(Boat boat) {
+        private boolean drawBelow(int odds) {
             chance = (chance * 3167 + 11383) % 65536;
-            int draw = chance / 8 % 16;
-            if (draw < boat.odds) {
-                tryCall(boat);
-            } else {
-                missed++;
-            }
+            return chance / 8 % MOST_ODDS < odds;
         }
 
         private static boolean holdsTrue(Boat boat, Years years, int at) {

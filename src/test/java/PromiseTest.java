@@ -171,6 +171,12 @@ public final class PromiseTest {
         c.due(x, "9 the highest first", x.boat(14), 0, 0);
         c.due("9 habit", x.told(3), 3);
         c.due("9 plank", x.told(2), 9);
+        Check.feed(x, "plank 12;");
+        c.due(x, "10 a number ends with the text", x.boat(7), -1, 9);
+        c.due("10 at the end", x.fault(0) * 10 + x.fault(1), 27);
+        Check.feed(x, "plank 3;personp");
+        c.due(x, "10 a word ends with the text", x.boat(14), -1, 9);
+        c.due("10 at the end", x.fault(0) * 100 + x.fault(1), 214);
         c.due("9 a high byte is none below 0", Check.boat(x, "" + (char) 200), -1);
         c.due("9 its fault", x.fault(0), 1);
     }
@@ -517,6 +523,8 @@ public final class PromiseTest {
         c.due("23 hold", x.person(5, 0), 9);
         c.due("23 on board", x.person(5, 2), 1);
         c.due("23 excused from nothing", x.person(5, 4), 0);
+        c.due(x, "23 he has no name", Check.years(x, "board a;"), -1, 9);
+        c.due("23 an omen has that one", x.fault(0), 3);
         c.due(x, "23 ten", x.come(10), -1, 1);
         c.due(x, "23 below 0", x.come(-1), -1, 1);
         c.due(x, "23 seventh", x.come(0), 6, 0);
