@@ -45,6 +45,14 @@ public final class FaceTest {
             check.due("open or private: " + method, isPublic || isPrivate, true);
             check.due("a private name of its own: " + method, isPublic || !open.contains(method.getName()), true);
         }
+        for (Class<?> inside : IslandCall.class.getDeclaredClasses()) {
+            int wanted = Modifier.PRIVATE | Modifier.STATIC | Modifier.FINAL;
+            check.due("rule 2: " + inside, inside.getModifiers() & wanted, wanted);
+            check.due("rule 11: fields of " + inside, inside.getDeclaredFields().length <= 25, true);
+            for (Method method : inside.getDeclaredMethods()) {
+                check.due("a name of its own: " + method, open.contains(method.getName()), false);
+            }
+        }
         for (Field field : IslandCall.class.getDeclaredFields()) {
             boolean isNone = field.getName().equals("NONE");
             check.due("field " + field, Modifier.isPublic(field.getModifiers()) == isNone
