@@ -10,7 +10,7 @@ import java.util.TreeSet;
  * The document once more, by its words and without a thought for speed or room: sets are sets, every
  * "of several" is looked for among all, a turn is tried on a copy. ModelTest holds the class against it.
  */
-final class Model {
+final class Model implements Asked {
     static final int NONE = -1;
 
     static final class Trouble extends RuntimeException {
@@ -657,8 +657,8 @@ final class Model {
         return is ? 1 : 0;
     }
 
-    /** A call by its name; booleans are 1 or 0. */
-    long ask(String name, long... a) {
+    @Override
+    public long ask(String name, long... a) {
         int[] i = new int[a.length];
         for (int k = 0; k < a.length; k++) {
             i[k] = (int) a[k];

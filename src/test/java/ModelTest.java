@@ -17,7 +17,8 @@ public final class ModelTest {
             "\r", "\0", "\u00e9", "" + (char) 255};
 
     private final Random random;
-    private final IslandCall x = new IslandCall();
+    private final Real real = new Real();
+    private final IslandCall x = real.x;
     private final Model model = new Model();
     private final int run;
     private final List<String> done = new ArrayList<>();
@@ -25,7 +26,7 @@ public final class ModelTest {
     private final List<String> personNames = new ArrayList<>();
     private static int wrong = 0;
     private static int asked = 0;
-    private static final List<Method> METHODS = new ArrayList<>();
+    private static final List<Method> METHODS = new ArrayList<>(Real.METHODS.values());
     // What each call, by the document, may have for a status; each must have been met, or the runs are too poor.
     private static final String[] STATUSES = {"tray 01", "write 0123", "read 0123", "pour 01238", "boat 019", "years 019", "told 01",
             "omen 01", "person 01", "call 04", "show 017", "board 017", "sway 01", "excuse 017", "see 017", "paint 01", "come 014",
@@ -42,13 +43,7 @@ public final class ModelTest {
         random = new Random(run * 7919L + 5);
     }
 
-    public static void main(String[] args) throws Exception {
-        for (Method m : IslandCall.class.getDeclaredMethods()) {
-            if (java.lang.reflect.Modifier.isPublic(m.getModifiers())) {
-                METHODS.add(m);
-            }
-        }
-        METHODS.sort((a, b) -> a.getName().compareTo(b.getName()));
+    public static void main(String[] args) {
         int runs = args.length > 0 ? Integer.parseInt(args[0]) : RUNS;
         int from = args.length > 1 ? Integer.parseInt(args[1]) : 0;
         for (int run = from; run < from + runs && wrong < 5; run++) {
@@ -76,7 +71,7 @@ public final class ModelTest {
         }
     }
 
-    private void go() throws Exception {
+    private void go() {
         int style = random.nextInt(8);
         if (style > 0) {
             takeText("boat", boatText());
@@ -106,7 +101,7 @@ public final class ModelTest {
         }
     }
 
-    private void takeText(String name, String text) throws Exception {
+    private void takeText(String name, String text) {
         if (model.tape.length() > 0 && random.nextInt(30) > 0) {
             // Bytes left over from ahead would spoil the text: they are taken off as years, good or not.
             one("years", Math.min(300, model.tape.length()));
@@ -122,7 +117,7 @@ public final class ModelTest {
     }
 
     /** Up to the last call that can be made, and beyond it. */
-    private void manyCalls() throws Exception {
+    private void manyCalls() {
         takeText("years", "loop 99;call;any;call;end;");
         for (int i = 0; i < 42; i++) {
             one("live", random.nextInt(10000));
@@ -133,7 +128,7 @@ public final class ModelTest {
         one("live", 0);
     }
 
-    private void fillTray() throws Exception {
+    private void fillTray() {
         int tray = random.nextInt(4);
         int n = random.nextInt(21);
         one("tray", tray, random.nextInt(4), 2 * n);
@@ -205,14 +200,14 @@ public final class ModelTest {
         return random.nextInt(300);
     }
 
-    private void one(String name, long... a) throws Exception {
+    private void one(String name, long... a) {
         StringBuilder told = new StringBuilder(name).append('(');
         for (int i = 0; i < a.length; i++) {
             told.append(i == 0 ? "" : ", ").append(a[i]);
         }
         done.add(told.append(')').toString());
         long want = model.ask(name, a);
-        long got = call(name, a);
+        long got = real.ask(name, a);
         asked++;
         MET.merge("status " + name + " " + model.status, 1, Integer::sum);
         if (model.status == 9) {
@@ -269,27 +264,6 @@ public final class ModelTest {
     private void tellRun() {
         int from = Math.max(0, done.size() - 30);
         System.out.println(done.subList(from, done.size()));
-    }
-
-    private long call(String name, long[] a) throws Exception {
-        for (Method m : METHODS) {
-            if (m.getName().equals(name)) {
-                Class<?>[] kinds = m.getParameterTypes();
-                Object[] given = new Object[a.length];
-                for (int i = 0; i < a.length; i++) {
-                    if (kinds[i] == boolean.class) {
-                        given[i] = a[i] == 1;
-                    } else if (kinds[i] == long.class) {
-                        given[i] = a[i];
-                    } else {
-                        given[i] = (int) a[i];
-                    }
-                }
-                Object answer = m.invoke(x, given);
-                return answer instanceof Boolean b ? (b ? 1 : 0) : ((Number) answer).longValue();
-            }
-        }
-        throw new IllegalStateException(name);
     }
 
     // ---- texts
