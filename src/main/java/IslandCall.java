@@ -1020,6 +1020,15 @@ public final class IslandCall {
             return true;
         }
 
+        /** False if he holds so much already. */
+        boolean swayTo(int p, int holding) {
+            if (!isPerson(p) || hold[p] == holding) {
+                return false;
+            }
+            hold[p] = holding;
+            return true;
+        }
+
         int needWith(int holding, int p, int set) {
             int felt = set & ~excused[p];
             int left = holding;
@@ -1845,7 +1854,7 @@ public final class IslandCall {
 
         private int behindEnd(Years years, int end) {
             int begin = years.partners[end];
-            if (years.words[begin] == WORD_LOOP) {
+            if (begin >= 0 && years.words[begin] == WORD_LOOP) {
                 timesLeft[begin]--;
                 // An empty loop has nothing to go back to.
                 if (timesLeft[begin] > 0 && begin + 1 < end) {
@@ -1876,16 +1885,17 @@ public final class IslandCall {
                     count(boat.takeAboard(thing));
                     break;
                 case WORD_SWAY:
-                    count(boat.hold[thing] != number);
-                    boat.hold[thing] = number;
+                    count(boat.swayTo(thing, number));
                     break;
                 case WORD_WHEN:
                     return holdsTrue(boat, years, at) ? at + 1 : years.partners[at] + 1;
                 case WORD_LOOP:
                     timesLeft[at] = number;
                     break;
-                default:
+                case WORD_STOP:
                     return years.entries;
+                default:
+                    break;
             }
             return at + 1;
         }
@@ -1920,13 +1930,14 @@ public final class IslandCall {
             if (years.tests[at] == WORD_SHOWS) {
                 return (boat.shown >> thing & 1) != 0;
             }
+            int held = boat.isPerson(thing) ? boat.hold[thing] : NONE;
             if (years.signs[at] == '<') {
-                return boat.hold[thing] < number;
+                return held < number;
             }
             if (years.signs[at] == '>') {
-                return boat.hold[thing] > number;
+                return held > number;
             }
-            return boat.hold[thing] == number;
+            return held == number;
         }
     }
 }

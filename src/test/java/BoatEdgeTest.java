@@ -415,11 +415,16 @@ public final class BoatEdgeTest {
                     faulty(begun.toString(), 2, begun.length());
                     faulty(begun + " \n ", 2, begun.length() + 3);
                 }
+                faulty(begun + "?", 1, begun.length());
+                faulty(begun + " 12345", 1, begun.length() + 1);
+                faulty(begun + " 12345;", 1, begun.length() + 1);
                 begun.append(' ');
             }
         }
         taken("", 0);
         faulty("sign s pulls 1;person p holds 1 against s", 2, 41);
+        faulty("sign s pulls 1;person p holds 1 against s?", 1, 41);
+        faulty("sign s pulls 1;person p holds 1 against s 12345", 1, 42);
     }
 
     private static void cannotStand() {
@@ -511,6 +516,12 @@ public final class BoatEdgeTest {
         edge.refuses(10, calls.then(text), "live(0)", 6);
         edge.refuses(10, calls.then(text), "mean(0, 1)", 6);
         edge.refuses(10, calls.then(text), "sloth(0)", 6);
+        // What was tried ahead of it leaves nothing behind either.
+        for (String tried : new String[] {"outIn(60)", "holdIn(0, 60)", "mean(0, 20)"}) {
+            edge.asks(10, calls.then(tried, text), "told(5)", 0);
+            edge.asks(10, calls.then(tried, text), "told(8)", 0);
+            edge.asks(10, calls.then(tried, text), "person(0, 0)", 9);
+        }
         // MARKS, TRAYS and the FRACTION are not the BOAT's.
         edge.gives(10, calls.then(text), "mark()", 3);
         edge.gives(10, calls.then(text), "undo()", 1);

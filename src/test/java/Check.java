@@ -9,7 +9,9 @@ final class Check {
         asked++;
         if (got != want) {
             wrong++;
-            System.out.println(what + " answered " + got + ", due is " + want);
+            // What a promise asks for begins with its number.
+            String promise = Character.isDigit(what.charAt(0)) ? "promise " : "";
+            System.out.println(promise + what + " answered " + got + ", due is " + want);
         }
     }
 

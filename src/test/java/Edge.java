@@ -58,6 +58,11 @@ final class Edge {
         Real real = stage.real();
         due(promise, call, Stage.say(real, call), Real.refusal(Stage.nameOf(call)));
         due(promise, call + " status()", real.ask("status"), (long) status);
+        unchanged(promise, stage, call, real);
+    }
+
+    /** Behind a call that is refused all is as it was at the stage. */
+    void unchanged(int promise, Stage stage, String call, Real real) {
         same(promise, call + ", refused, changes", Look.at(real, true), lookOf(stage));
         fewEnough(promise, call, real);
     }
@@ -98,7 +103,7 @@ final class Edge {
         return untouched.computeIfAbsent(stage, s -> Look.at(s.real(), true));
     }
 
-    private void same(int promise, String what, List<String> got, List<String> want) {
+    void same(int promise, String what, List<String> got, List<String> want) {
         int lines = Math.min(got.size(), want.size());
         for (int i = 0; i < lines; i++) {
             if (!got.get(i).equals(want.get(i))) {

@@ -64,7 +64,7 @@ public final class ModelTest {
             String name = row.substring(0, row.indexOf(' '));
             for (char digit : row.substring(name.length() + 1).toCharArray()) {
                 if (MET.getOrDefault(what + " " + name + " " + digit, 0) < 5) {
-                    System.out.println("hardly met: " + what + " " + digit + " of " + name);
+                    System.out.println("promise " + Promises.of(name) + ": hardly met: " + what + " " + digit + " of " + name);
                     wrong++;
                 }
             }
@@ -253,7 +253,8 @@ public final class ModelTest {
 
     private void agree(String what, long got, long want) {
         if (got != want) {
-            System.out.println("run " + run + ", call " + done.size() + ": " + what + " answered " + got + ", due is " + want);
+            int promise = Promises.of(what.replaceFirst("\\W.*", ""));
+            System.out.println("promise " + promise + ": run " + run + ", call " + done.size() + ": " + what + " answered " + got + ", due is " + want);
             if (wrong == 0) {
                 tellRun();
             }

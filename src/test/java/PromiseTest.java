@@ -1057,25 +1057,25 @@ public final class PromiseTest {
                 Integer.MAX_VALUE - 1, Integer.MAX_VALUE};
         IslandCall x = Check.withBoat(CHAIN);
         for (int v : odd) {
-            c.due(x, "any told", x.told(v), -1, 1);
-            c.due(x, "any omen", x.omen(v, 0), -1, 1);
-            c.due(x, "any person", x.person(v, 0), -1, 1);
-            c.due(x, "any show", x.show(v, true), false, 1);
-            c.due(x, "any see", x.see(0, v, true), false, 1);
-            c.due(x, "any need", x.need(v, 0), -1, 1);
-            c.due(x, "any outBy", x.outBy(v), -1, 1);
-            c.due(x, "any seeds", x.seeds(v), -1, 1);
-            c.due(x, "any lures", x.lures(v), -1, 1);
-            c.due(x, "any game", x.game(v), -1, 1);
-            c.due(x, "any moveOf", x.moveOf(v), -1, 1);
-            c.due(x, "any tides", x.tides(v, v), false, 1);
-            c.due(x, "any sloth", x.sloth(v), false, 1);
-            c.due(x, "any copyHolds", x.copyHolds(v), -1, 1);
-            c.due(x, "any lived", x.lived(v), -1, 1);
-            c.due(x, "any mean", x.mean(0, v), false, 1);
-            c.due(x, "any boat", x.boat(v), -1, 1);
-            c.due(x, "any years", x.years(v), -1, 1);
-            c.due("any fault", x.fault(v), -1);
+            c.due(x, "13 any number: told", x.told(v), -1, 1);
+            c.due(x, "14 any number: omen", x.omen(v, 0), -1, 1);
+            c.due(x, "15 any number: person", x.person(v, 0), -1, 1);
+            c.due(x, "17 any number: show", x.show(v, true), false, 1);
+            c.due(x, "21 any number: see", x.see(0, v, true), false, 1);
+            c.due(x, "25 any number: need", x.need(v, 0), -1, 1);
+            c.due(x, "27 any number: outBy", x.outBy(v), -1, 1);
+            c.due(x, "33 any number: seeds", x.seeds(v), -1, 1);
+            c.due(x, "37 any number: lures", x.lures(v), -1, 1);
+            c.due(x, "51 any number: game", x.game(v), -1, 1);
+            c.due(x, "52 any number: moveOf", x.moveOf(v), -1, 1);
+            c.due(x, "53 any number: tides", x.tides(v, v), false, 1);
+            c.due(x, "54 any number: sloth", x.sloth(v), false, 1);
+            c.due(x, "55 any number: copyHolds", x.copyHolds(v), -1, 1);
+            c.due(x, "57 any number: lived", x.lived(v), -1, 1);
+            c.due(x, "58 any number: mean", x.mean(0, v), false, 1);
+            c.due(x, "10 any number: boat", x.boat(v), -1, 1);
+            c.due(x, "11 any number: years", x.years(v), -1, 1);
+            c.due("12 any number: fault", x.fault(v), -1);
         }
     }
 }

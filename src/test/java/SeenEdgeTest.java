@@ -227,6 +227,8 @@ public final class SeenEdgeTest {
         // 0 and 1 fit: a, which pulls 1, lets both rise, and so do all; with an excuse from a it parts them.
         edge.asks(47, one(FULL, 0, 3), "ask(0, 0, 1)", 0);
         edge.asks(47, one(FULL, 0, 3).then("excuse(0, 5, true)"), "ask(0, 0, 1)", 5);
+        // 3 to 5 fit: by c, which pulls 3, one rises. Those that do not fit are not counted.
+        edge.asks(47, one(FULL, 0, 63).then("write(0, 2, 0)", "write(0, 3, 6)"), "ask(0, 0, 2)", 2);
         // No OMENS.
         edge.refuses(47, NO_OMENS.then("tray(0, 0, 0)"), "ask(0, 0, 0)", 6);
         edge.asks(47, new Stage("boat: sign a pulls 1;person p holds 1;", "tray(0, 0, 0)"), "ask(0, 0, 0)", 0);

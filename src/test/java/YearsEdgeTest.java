@@ -244,6 +244,10 @@ public final class YearsEdgeTest {
             StringBuilder begun = new StringBuilder();
             for (String token : step.replace(";", " ; ").split(" +")) {
                 begun.append(token).append(' ');
+                faulty(begun + "?", 1, begun.length());
+                faulty(begun + "12345", 1, begun.length());
+                faulty(begun + "12345;", 1, begun.length());
+                faulty(begun + "12345 = 1;end;", 1, begun.length());
                 if (!begun.toString().replace(" ", "").equals(step.replace(" ", ""))) {
                     faulty(begun.toString(), 2, begun.length());
                     faulty(begun.toString().trim(), 2, begun.length() - 1);
@@ -397,6 +401,8 @@ public final class YearsEdgeTest {
         lives(SOME, "when holds r = 0;stop;end;", 0, 2, 0, 0, 0, 0, 0);
         lives(SOME, "when holds q > 9;stop;end;", 0, 1, 0, 0, 0, 0, 0);
         lives(SOME, "when holds q = 9;stop;end;", 0, 2, 0, 0, 0, 0, 0);
+        // Where a loop was cut short by 300 STEPS ahead, a when is none.
+        lives(SOME.then("years: loop 99;any;any;any;any;end;", "live(0)"), "when shows b;hide a;end;", 0, 2, 1, 0, 0, 0, 0);
         // It is asked each time that it is come to.
         lives(SOME, "loop 3;when shows a;hide a;end;show a;end;", 0, 9, 0, 0, 0, 0, 0);
     }
@@ -506,6 +512,12 @@ public final class YearsEdgeTest {
             edge.asks(57, two.then(other), "lived(1)", 2);
         }
         edge.asks(57, two.then("boat: ", "live(0)"), "lived(1)", 2);
+        // What a longer one came to is not added to, and a STEP left then is none now.
+        Stage cut = SOME.then("years: loop 99;call;any;show a;show a;end;", "live(0)");
+        edge.asks(57, cut, "lived(4)", 1);
+        for (int what = 0; what <= 4; what++) {
+            edge.asks(57, cut.then("years: ", "live(0)"), "lived(" + what + ")", 0);
+        }
         edge.asks(57, two.then("years: call;", "live(0)"), "lived(1)", 1);
         edge.asks(57, NEW.then("years: call;call;", "mark()", "live(0)", "undo()"), "lived(1)", 2);
         edge.asks(57, NEW.then("years: call;call;", "mark()", "live(0)", "undo()"), "told(5)", 0);
