@@ -541,7 +541,8 @@ public final class IslandCall {
                 int omens = (int) trays.valueAt(tray, 2 * i);
                 int up = (int) trays.valueAt(tray, 2 * i + 1);
                 boolean rises = Integer.bitCount(ship.sees[person] & up) >= ship.needWith(hold, person, omens);
-                fit &= rises == ((up >> person & 1) != 0);
+                boolean isUp = (up >> person & 1) != 0;
+                fit = fit && rises == isUp;
             }
             holds |= fit ? 1 << hold : 0;
         }
